@@ -1,0 +1,88 @@
+/** Promises 1 to 17 together: long mixed runs of calls, each answer compared with PlainCpu's. */
+public final class AgainstPlainTest {
+  private static final int OBJECTS = 20000;
+  private static final int CALLS = 60;
+  private static final int[] EDGES = {
+    0, 1, -1, 2, 7, 8, 31, 32, 33, -31, -32, 64, 65, Integer.MIN_VALUE, Integer.MAX_VALUE
+  };
+
+  // A counting rule of our own, so that every run of the test makes the same calls.
+  private static long seed = 20261115L;
+
+  public static void main(String[] args) {
+    for (int object = 0; object < OBJECTS && !Check.failed(); object++) {
+      oneObject(object);
+    }
+    Check.end();
+  }
+
+  private static int below(int bound) {
+    seed = seed * 6364136223846793005L + 1442695040888963407L;
+    return (int) ((seed >>> 33) % bound);
+  }
+
+  private static int anyInt() {
+    int choice = below(4);
+    if (choice == 0) {
+      return EDGES[below(EDGES.length)];
+    }
+    return choice == 1 ? below(Integer.MAX_VALUE) * 2 + below(2) : below(40) - 4;
+  }
+
+  private static int mostlyBelow(int bound) {
+    return below(20) == 0 ? anyInt() : below(bound);
+  }
+
+  private static void oneObject(int object) {
+    int[] given = {anyInt(), anyInt(), anyInt(), anyInt()};
+    ScoreboardCpu cpu = new ScoreboardCpu(given[0], given[1], given[2], given[3]);
+    PlainCpu plain = new PlainCpu(given);
+    // Few registers make many conflicts; many registers make much overlap.
+    int registers = 2 + below(7);
+    for (int index = 0; index < 8; index++) {
+      int value = anyInt();
+      cpu.setRegister(index, value);
+      plain.setRegister(index, value);
+    }
+    int start = below(33);
+    for (int cell = 0; cell < start; cell++) {
+      emit(object, cpu, plain, registers);
+    }
+    for (int call = 0; call < CALLS && !Check.failed(); call++) {
+      oneCall(object, cpu, plain, registers);
+      Check.same("object " + object + ", call " + call, plain.state(), State.of(cpu));
+    }
+  }
+
+  private static void oneCall(int object, ScoreboardCpu cpu, PlainCpu plain, int registers) {
+    int where = mostlyBelow(32);
+    int value = anyInt();
+    String what = "object " + object + ": ";
+    switch (below(12)) {
+      case 0 -> Check.due(what + "setLatency", cpu.setLatency(where % 8, value), plain.setLatency(where % 8, value));
+      case 1 -> Check.due(what + "setRegister", cpu.setRegister(where % 10, value), plain.setRegister(where % 10, value));
+      case 2 -> Check.due(what + "setMemory", cpu.setMemory(where, value), plain.setMemory(where, value));
+      case 3, 4 -> Check.due(what + "jump", cpu.jump(where), plain.jump(where));
+      case 5, 6 -> emit(object, cpu, plain, registers);
+      case 7 -> {
+        if (below(8) == 0) {
+          cpu.reset();
+          plain.reset();
+        }
+      }
+      default -> {
+        int count = mostlyBelow(65);
+        Check.due(what + "run(" + count + ")", cpu.run(count), plain.run(count));
+      }
+    }
+  }
+
+  private static void emit(int object, ScoreboardCpu cpu, PlainCpu plain, int registers) {
+    int op = below(30) == 0 ? below(16) - 1 : 1 + below(12);
+    int d = op >= 10 ? mostlyBelow(32) : mostlyBelow(registers);
+    int a = mostlyBelow(registers);
+    int b = op == 3 || op == 8 || op == 9 ? anyInt() : mostlyBelow(registers);
+    String call = "object " + object + ": emit(" + op + ", " + d + ", " + a + ", " + b + ")";
+    Check.due(call, cpu.emit(op, d, a, b), plain.emit(op, d, a, b));
+  }
+}
