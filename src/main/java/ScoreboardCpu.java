@@ -361,8 +361,7 @@ public final class ScoreboardCpu {
       case REM:
         return right == 0 ? left : left % right;
       case LOAD:
-        // An address outside the memory answers 0 there, as a faulty LOAD must.
-        return memory(left + right);
+        return isBelow(left + right, WORDS) ? words[left + right] : 0;
       default:
         return left + right;
     }

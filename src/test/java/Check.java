@@ -18,8 +18,26 @@ final class Check {
   /** The whole visible state must be the same as before, but for the entries named as free. */
   static void same(String call, int[] before, int[] after, int... free) {
     for (int i = 0; i < before.length; i++) {
-      if (!contains(free, i)) {
+      if (after[i] != before[i] && !contains(free, i)) {
         due(call + ", then " + State.name(i), after[i], before[i]);
+      }
+    }
+  }
+
+  /** Nothing may tell the object, which is used up here, from an untouched one of its situation. */
+  static void untouched(String call, ScoreboardCpu cpu, int situation) {
+    ScoreboardCpu twin = Situations.make(situation);
+    int[] want = State.of(twin);
+    int[] got = State.of(cpu);
+    same(call, want, got);
+    sameInside(call, Inside.of(cpu), Inside.of(twin));
+  }
+
+  static void sameInside(String call, int[] got, int[] want) {
+    for (int i = 0; i < want.length; i++) {
+      if (got[i] != want[i]) {
+        due(call + ", then a later answer (" + Inside.name(i) + ")", got[i], want[i]);
+        return;
       }
     }
   }

@@ -1,51 +1,86 @@
 /** Promises 2 and 3: setLatency and latency. */
 public final class LatencyTest {
+  private static final int MIN = Integer.MIN_VALUE;
+  private static final int MAX = Integer.MAX_VALUE;
+  private static final int[] CYCLES = {MIN, -1, 0, 1, 2, 5, 7, 8, 9, 64, MAX};
+
   public static void main(String[] args) {
-    eachUnitIsSetAndClamped();
-    wrongUnitsAreRefused();
-    readingChangesNothing();
-    runsDoNotDependOnLatencies();
+    aWrongUnitIsRefusedWhateverTheCycles();
+    belowOneBecomesOne();
+    aboveEightBecomesEight();
+    betweenIsTakenAsItIs();
+    nothingElseChanges();
+    noLaterAnswerDependsOnIt();
+    latencyIsThePresentOne();
+    latencyOfAWrongUnitIsRefused();
     Check.end();
   }
 
-  private static void eachUnitIsSetAndClamped() {
-    int[] cycles = {1, 5, 8, 0, 9, -1, 64, Integer.MIN_VALUE, Integer.MAX_VALUE};
-    int[] due = {1, 5, 8, 1, 8, 1, 8, 1, 8};
+  // "`setLatency(unit, cycles)` answers `REFUSED` and changes nothing if `unit` is not in 0..3,
+  // whatever `cycles` is."
+  private static void aWrongUnitIsRefusedWhateverTheCycles() {
+    for (int cycles : CYCLES) {
+      for (int unit : new int[] {MIN, -2, -1, 4, 5, 8, MAX}) {
+        ScoreboardCpu cpu = State.used();
+        String call = "setLatency(" + unit + ", " + cycles + ")";
+        Check.due(call, cpu.setLatency(unit, cycles), ScoreboardCpu.REFUSED);
+        Check.untouched(call, cpu, Situations.BEFORE_ADD);
+      }
+      for (int unit = 0; unit < 4; unit++) {
+        String call = "setLatency(" + unit + ", " + cycles + ")";
+        Check.due(call, State.used().setLatency(unit, cycles), ScoreboardCpu.OK);
+      }
+    }
+  }
+
+  // "(below 1 becomes 1, ..." at 0, on both sides of it, and far off
+  private static void belowOneBecomesOne() {
+    becomes(new int[] {MIN, MIN + 1, -2, -1, 0, 1, 2}, new int[] {1, 1, 1, 1, 1, 1, 2});
+  }
+
+  // "... above 8 becomes 8)" at 9, on both sides of it, and far off
+  private static void aboveEightBecomesEight() {
+    becomes(new int[] {7, 8, 9, 10, 64, MAX - 1, MAX}, new int[] {7, 8, 8, 8, 8, 8, 8});
+  }
+
+  // "Otherwise the latency of that unit becomes `cycles`"
+  private static void betweenIsTakenAsItIs() {
+    int[] all = {1, 2, 3, 4, 5, 6, 7, 8};
+    becomes(all, all);
+  }
+
+  private static void becomes(int[] cycles, int[] due) {
     for (int unit = 0; unit < 4; unit++) {
       for (int i = 0; i < cycles.length; i++) {
         ScoreboardCpu cpu = State.used();
-        int[] before = State.of(cpu);
         String call = "setLatency(" + unit + ", " + cycles[i] + ")";
         Check.due(call, cpu.setLatency(unit, cycles[i]), ScoreboardCpu.OK);
         Check.due(call + ", then latency(" + unit + ")", cpu.latency(unit), due[i]);
-        Check.same(call, before, State.of(cpu), State.LATENCY_0 + unit);
       }
     }
   }
 
-  private static void wrongUnitsAreRefused() {
-    for (int unit : new int[] {-1, 4, 5, 8, Integer.MIN_VALUE, Integer.MAX_VALUE}) {
-      for (int cycles : new int[] {1, 8, 0, 9}) {
-        ScoreboardCpu cpu = State.used();
-        int[] before = State.of(cpu);
-        String call = "setLatency(" + unit + ", " + cycles + ")";
-        Check.due(call, cpu.setLatency(unit, cycles), ScoreboardCpu.REFUSED);
-        Check.due("latency(" + unit + ")", cpu.latency(unit), ScoreboardCpu.REFUSED);
-        Check.same(call, before, State.of(cpu));
+  // "The latencies of the other units, the registers, memory, program, pc and faults do not
+  // change."
+  private static void nothingElseChanges() {
+    for (int situation = 0; situation < Situations.COUNT; situation++) {
+      for (int unit = 0; unit < 4; unit++) {
+        for (int cycles : CYCLES) {
+          ScoreboardCpu cpu = Situations.make(situation);
+          int[] before = State.of(cpu);
+          String call = "setLatency(" + unit + ", " + cycles + ")" + Situations.name(situation);
+          cpu.setLatency(unit, cycles);
+          Check.same(call, before, State.of(cpu), State.LATENCY_0 + unit);
+          cpu.setLatency(unit, before[State.LATENCY_0 + unit]);
+          Check.untouched(call + " and back", cpu, situation);
+        }
       }
     }
   }
 
-  private static void readingChangesNothing() {
-    ScoreboardCpu cpu = State.used();
-    int[] before = State.of(cpu);
-    for (int unit = -2; unit < 6; unit++) {
-      cpu.latency(unit);
-    }
-    Check.same("latency", before, State.of(cpu));
-  }
-
-  private static void runsDoNotDependOnLatencies() {
+  // "No later answer other than that of `latency` for this unit depends on the new value." and of
+  // What it is: "Latencies show in the answers of `latency(unit)` and nowhere else."
+  private static void noLaterAnswerDependsOnIt() {
     int[] first = stateAfterOverlap(1, 1, 1, 1);
     for (int code = 0; code < 4096; code++) {
       int[] next = stateAfterOverlap(code % 8 + 1, code / 8 % 8 + 1, code / 64 % 8 + 1, code / 512 + 1);
@@ -75,5 +110,33 @@ public final class LatencyTest {
     cpu.setLatency(3, memoryUnit);
     cpu.run(25);
     return State.of(cpu);
+  }
+
+  // "`latency(unit)` answers the present latency of the unit, 1..8"
+  private static void latencyIsThePresentOne() {
+    for (int unit = 0; unit < 4; unit++) {
+      ScoreboardCpu cpu = State.used();
+      Check.due("latency(" + unit + ") as made", cpu.latency(unit), 2 + unit);
+      cpu.setLatency(unit, 8);
+      Check.due("latency(" + unit + ") set", cpu.latency(unit), 8);
+      cpu.setLatency(unit, 1);
+      Check.due("latency(" + unit + ") set again", cpu.latency(unit), 1);
+      cpu.setLatency(4, 6);
+      cpu.setLatency(-1, 6);
+      Check.due("latency(" + unit + ") after a refusal", cpu.latency(unit), 1);
+      cpu.run(64);
+      Check.due("latency(" + unit + ") after a run", cpu.latency(unit), 1);
+      cpu.reset();
+      Check.due("latency(" + unit + ") after a reset", cpu.latency(unit), 1);
+    }
+  }
+
+  // "... if `unit` is in 0..3, and `REFUSED` for every other `unit`."
+  private static void latencyOfAWrongUnitIsRefused() {
+    for (int unit : new int[] {MIN, -3, -2, -1, 4, 5, 7, 8, MAX}) {
+      Check.due("latency(" + unit + ")", State.used().latency(unit), ScoreboardCpu.REFUSED);
+    }
+    Check.due("latency(0)", State.used().latency(0), 2);
+    Check.due("latency(3)", State.used().latency(3), 5);
   }
 }

@@ -2,57 +2,137 @@
 public final class ResetTest {
   public static void main(String[] args) {
     programPcAndFaultsGo();
-    theNextInstructionGoesIntoCell0();
+    registersMemoryAndLatenciesStay();
     everyStateAllowsIt();
+    afterwardsTheMachineIsStopped();
+    theNextInstructionGoesIntoCell0();
+    aRefusedEmitTakesNoCell();
+    nothingOfTheOldProgramIsLeft();
+    faultsAreToldAfresh();
+    aSecondResetChangesNothing();
     Check.end();
   }
 
+  // "`reset()` empties the program (length 0), makes the pc 0, the fault count 0, and the first
+  // and last fault none."
   private static void programPcAndFaultsGo() {
-    ScoreboardCpu cpu = State.used();
-    int[] before = State.of(cpu);
-    Check.due("faultCount() before", cpu.faultCount(), 2);
-    cpu.reset();
-    Check.due("length()", cpu.length(), 0);
-    Check.due("pc()", cpu.pc(), 0);
-    Check.due("stopped()", cpu.stopped(), true);
-    Check.due("faultCount()", cpu.faultCount(), 0);
-    Check.due("firstFault()", cpu.firstFault(), ScoreboardCpu.NONE);
-    Check.due("lastFault()", cpu.lastFault(), ScoreboardCpu.NONE);
-    Check.same("reset()", before, State.of(cpu), State.LENGTH, State.PC, State.STOPPED,
-        State.FAULT_COUNT, State.FIRST_FAULT, State.LAST_FAULT);
-    Check.due("run(64)", cpu.run(64), 0);
+    for (int situation = 0; situation < Situations.COUNT; situation++) {
+      ScoreboardCpu cpu = Situations.make(situation);
+      cpu.reset();
+      String after = " after reset()" + Situations.name(situation);
+      Check.due("length()" + after, cpu.length(), 0);
+      Check.due("pc()" + after, cpu.pc(), 0);
+      Check.due("faultCount()" + after, cpu.faultCount(), 0);
+      Check.due("firstFault()" + after, cpu.firstFault(), ScoreboardCpu.NONE);
+      Check.due("lastFault()" + after, cpu.lastFault(), ScoreboardCpu.NONE);
+    }
   }
 
+  // "Registers, memory and latencies stay."
+  private static void registersMemoryAndLatenciesStay() {
+    for (int situation = 0; situation < Situations.COUNT; situation++) {
+      ScoreboardCpu cpu = Situations.make(situation);
+      int[] before = State.of(cpu);
+      cpu.reset();
+      Check.same("reset()" + Situations.name(situation), before, State.of(cpu), State.LENGTH,
+          State.PC, State.STOPPED, State.FAULT_COUNT, State.FIRST_FAULT, State.LAST_FAULT);
+    }
+  }
+
+  // "It is allowed in every state": no later answer tells what the state was, once registers,
+  // memory and latencies are made alike
+  private static void everyStateAllowsIt() {
+    int[] due = Inside.of(new ScoreboardCpu(3, 3, 3, 3));
+    for (int situation = 0; situation < Situations.COUNT; situation++) {
+      ScoreboardCpu cpu = Situations.make(situation);
+      cpu.reset();
+      for (int index = 0; index < 8; index++) {
+        cpu.setRegister(index, 0);
+      }
+      for (int address = 0; address < 32; address++) {
+        cpu.setMemory(address, 0);
+      }
+      for (int unit = 0; unit < 4; unit++) {
+        cpu.setLatency(unit, 3);
+      }
+      Check.sameInside("reset()" + Situations.name(situation), Inside.of(cpu), due);
+    }
+  }
+
+  // "afterwards the machine is stopped"
+  private static void afterwardsTheMachineIsStopped() {
+    for (int situation = 0; situation < Situations.COUNT; situation++) {
+      ScoreboardCpu cpu = Situations.make(situation);
+      cpu.reset();
+      Check.due("stopped() after reset()" + Situations.name(situation), cpu.stopped(), true);
+      Check.due("run(64) after reset()" + Situations.name(situation), cpu.run(64), 0);
+    }
+  }
+
+  // "the next instruction accepted by `emit` goes into cell 0"
   private static void theNextInstructionGoesIntoCell0() {
-    ScoreboardCpu cpu = State.used();
+    for (int situation = 0; situation < Situations.COUNT; situation++) {
+      ScoreboardCpu cpu = Situations.make(situation);
+      cpu.reset();
+      String after = " after reset()" + Situations.name(situation);
+      Check.due("emit" + after, cpu.emit(ScoreboardCpu.ADDI, 1, 0, 5), 0);
+      Check.due("stopped() on it" + after, cpu.stopped(), false);
+      Check.due("second emit" + after, cpu.emit(ScoreboardCpu.ADDI, 2, 0, 5), 1);
+      cpu.setRegister(0, 37);
+      Check.due("run(64)" + after, cpu.run(64), 2);
+      Check.due("register(1)" + after, cpu.register(1), 42);
+    }
+  }
+
+  // "accepted": refused ones before it take no cell
+  private static void aRefusedEmitTakesNoCell() {
+    ScoreboardCpu cpu = Situations.make(Situations.FULL);
+    Check.due("emit when full", cpu.emit(ScoreboardCpu.ADD, 1, 2, 3), ScoreboardCpu.FULL);
     cpu.reset();
     Check.due("refused emit", cpu.emit(1, 8, 0, 0), ScoreboardCpu.REFUSED);
-    Check.due("emit", cpu.emit(ScoreboardCpu.DIV, 1, 2, 3), 0);
-    cpu.setRegister(3, 0);
-    Check.due("run(64) runs the new program alone", cpu.run(64), 1);
-    Check.due("firstFault() is told afresh", cpu.firstFault(), 32);
-    Check.due("lastFault() is told afresh", cpu.lastFault(), 32);
-    Check.due("faultCount() is told afresh", cpu.faultCount(), 1);
+    Check.due("refused opcode", cpu.emit(13, 0, 0, 0), ScoreboardCpu.REFUSED);
+    Check.due("accepted emit", cpu.emit(ScoreboardCpu.DIV, 1, 2, 3), 0);
+    for (int cell = 1; cell < 32; cell++) {
+      Check.due("emit into cell " + cell, cpu.emit(ScoreboardCpu.ADD, 1, 2, 3), cell);
+    }
+    Check.due("emit when full again", cpu.emit(ScoreboardCpu.ADD, 1, 2, 3), ScoreboardCpu.FULL);
   }
 
-  private static void everyStateAllowsIt() {
-    ScoreboardCpu cpu = new ScoreboardCpu(8, 8, 8, 8);
-    int[] fresh = State.of(cpu);
+  private static void nothingOfTheOldProgramIsLeft() {
+    ScoreboardCpu cpu = Situations.make(Situations.FULL);
     cpu.reset();
-    Check.same("reset() of a fresh object", fresh, State.of(cpu));
-    for (int cell = 0; cell < 32; cell++) {
-      cpu.emit(ScoreboardCpu.ADD, 0, 0, 0);
+    cpu.emit(ScoreboardCpu.ADD, 0, 0, 0);
+    for (int cell = 1; cell < 32; cell++) {
+      cpu.jump(cell);
+      Check.due("stopped() at old cell " + cell, cpu.stopped(), true);
+      Check.due("run(64) at old cell " + cell, cpu.run(64), 0);
     }
-    cpu.run(64);
-    Check.due("pc() before", cpu.pc(), 32);
+    cpu.jump(0);
+    Check.due("run(64) of the new program", cpu.run(64), 1);
+  }
+
+  // Promises 14 to 16: "since the object was made or last reset"
+  private static void faultsAreToldAfresh() {
+    ScoreboardCpu cpu = State.used();
+    Check.due("faultCount() before", cpu.faultCount(), 2);
     cpu.reset();
-    Check.same("reset() at pc 32 and full", fresh, State.of(cpu));
-    Check.due("emit after a full program", cpu.emit(0, 0, 0, 0), 0);
-    cpu.run(64);
-    cpu.reset();
-    Check.same("reset() on HALT", fresh, State.of(cpu));
-    cpu.jump(17);
-    cpu.reset();
-    Check.same("reset() beyond length", fresh, State.of(cpu));
+    cpu.emit(ScoreboardCpu.ADD, 1, 1, 1);
+    cpu.emit(ScoreboardCpu.DIV, 1, 2, 3);
+    cpu.setRegister(3, 0);
+    Check.due("run(1) without a fault", cpu.run(1), 1);
+    Check.due("firstFault() still none", cpu.firstFault(), ScoreboardCpu.NONE);
+    Check.due("run(64)", cpu.run(64), 1);
+    Check.due("firstFault()", cpu.firstFault(), 33);
+    Check.due("lastFault()", cpu.lastFault(), 33);
+    Check.due("faultCount()", cpu.faultCount(), 1);
+  }
+
+  private static void aSecondResetChangesNothing() {
+    ScoreboardCpu once = Situations.make(Situations.AFTER_RESET);
+    once.reset();
+    Check.untouched("second reset()", once, Situations.AFTER_RESET);
+    ScoreboardCpu fresh = Situations.make(Situations.FRESH);
+    fresh.reset();
+    Check.untouched("reset() of a fresh object", fresh, Situations.FRESH);
   }
 }

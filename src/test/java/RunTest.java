@@ -1,146 +1,352 @@
-/** Promise 12, Refusal, Extent, Answer and What stays; promise 13, stopped. */
+/** Promise 12: Refusal, Extent, Answer and What stays. */
 public final class RunTest {
+  private static final int MIN = Integer.MIN_VALUE;
+  private static final int MAX = Integer.MAX_VALUE;
+
   public static void main(String[] args) {
-    wrongCountsAreRefused();
-    countBoundsTheRun();
-    endOfProgramStops();
-    haltStops();
-    branchesCountAndLeaveTheProgram();
-    faultsDoNotStop();
+    aCountOutside1To64IsRefused();
+    atMost64InACall();
+    theCountEndsARun();
+    lengthEndsARun();
+    haltEndsARun();
+    theFirstOfTheThreeEndsARun();
+    haltIsNotCountedAndThePcStays();
+    branchesAreCounted();
+    faultyInstructionsAreCounted();
+    aFaultNeverStops();
+    repeatedInstructionsAreCountedEachTime();
+    aStoppedMachineAnswers0();
     aStopIsNotRemembered();
-    aStoppedRunChangesNothing();
+    programLengthAndLatenciesStay();
+    allEffectsAreComplete();
+    noOtherInstructionHasAnEffect();
     splittingMakesNoDifference();
-    nothingIsLeftUnfinished();
     Check.end();
   }
 
-  private static void wrongCountsAreRefused() {
-    for (int count : new int[] {0, -1, 65, 66, Integer.MIN_VALUE, Integer.MAX_VALUE}) {
-      ScoreboardCpu cpu = State.used();
-      int[] before = State.of(cpu);
-      Check.due("run(" + count + ")", cpu.run(count), ScoreboardCpu.REFUSED);
-      Check.same("run(" + count + ")", before, State.of(cpu));
+  /** A program of ADDI instructions that count in R[1], with a HALT in one cell, or in none. */
+  private static ScoreboardCpu counting(int length, int halt) {
+    ScoreboardCpu cpu = new ScoreboardCpu(3, 1, 1, 1);
+    for (int cell = 0; cell < length; cell++) {
+      cpu.emit(cell == halt ? ScoreboardCpu.HALT : ScoreboardCpu.ADDI, 1, 1, 1);
     }
-    Check.due("run(0) of a stopped machine", new ScoreboardCpu(1, 1, 1, 1).run(0), -1);
-    Check.due("run(65) of a stopped machine", new ScoreboardCpu(1, 1, 1, 1).run(65), -1);
+    return cpu;
   }
 
-  private static void countBoundsTheRun() {
+  private static void due(String what, ScoreboardCpu cpu, int counted, int pc, boolean stopped) {
+    Check.due(what + ", register(1)", cpu.register(1), counted);
+    Check.due(what + ", pc()", cpu.pc(), pc);
+    Check.due(what + ", stopped()", cpu.stopped(), stopped);
+  }
+
+  // "`run(count)` answers `REFUSED` and changes nothing if `count` is not in 1..64."
+  private static void aCountOutside1To64IsRefused() {
+    for (int situation = 0; situation < Situations.COUNT; situation++) {
+      for (int count : new int[] {MIN, MIN + 1, -64, -1, 0, 65, 66, 100, 128, MAX - 1, MAX}) {
+        ScoreboardCpu cpu = Situations.make(situation);
+        String call = "run(" + count + ")" + Situations.name(situation);
+        Check.due(call, cpu.run(count), ScoreboardCpu.REFUSED);
+        Check.untouched(call, cpu, situation);
+      }
+    }
+    Check.due("run(1)", counting(9, -1).run(1), 1);
+    Check.due("run(64)", counting(9, -1).run(64), 9);
+  }
+
+  // What it is: "`run(count)` executes up to 64 instructions in a call"
+  private static void atMost64InACall() {
+    ScoreboardCpu cpu = new ScoreboardCpu(8, 8, 8, 8);
+    cpu.emit(ScoreboardCpu.BEQ, 0, 0, 0);
+    Check.due("run(63) of an endless loop", cpu.run(63), 63);
+    Check.due("run(64) of an endless loop", cpu.run(64), 64);
+    Check.due("run(65) of an endless loop", cpu.run(65), ScoreboardCpu.REFUSED);
+  }
+
+  // "`count` instructions have been executed in this call": every count, in a program that never
+  // stops of itself
+  private static void theCountEndsARun() {
     for (int latency = 1; latency <= 8; latency++) {
       for (int count = 1; count <= 64; count++) {
         ScoreboardCpu cpu = new ScoreboardCpu(latency, 1, 1, 1);
         cpu.emit(ScoreboardCpu.ADDI, 1, 1, 1);
         cpu.emit(ScoreboardCpu.BEQ, 0, 0, 0);
-        Check.due("run(" + count + ") of an endless loop", cpu.run(count), count);
-        Check.due("register(1) after " + count, cpu.register(1), (count + 1) / 2);
-        Check.due("pc() after " + count, cpu.pc(), count % 2);
-        Check.due("stopped() after " + count, cpu.stopped(), false);
+        String call = "run(" + count + ") of an endless loop";
+        Check.due(call, cpu.run(count), count);
+        due(call, cpu, (count + 1) / 2, count % 2, false);
+        Check.due(call + " again", cpu.run(count), count);
       }
     }
   }
 
-  private static void endOfProgramStops() {
+  // "pc >= length": for every length, with a count just too small, just enough and just too large
+  private static void lengthEndsARun() {
     for (int length = 0; length <= 32; length++) {
-      ScoreboardCpu cpu = new ScoreboardCpu(2, 1, 1, 1);
-      for (int cell = 0; cell < length; cell++) {
-        cpu.emit(ScoreboardCpu.ADDI, 1, 1, 1);
+      for (int count = Math.max(1, length - 1); count <= length + 1; count++) {
+        ScoreboardCpu cpu = counting(length, -1);
+        int executed = Math.min(count, length);
+        String call = "run(" + count + ") with length " + length;
+        Check.due(call, cpu.run(count), executed);
+        due(call, cpu, executed, executed, count >= length);
       }
-      Check.due("stopped() before a program of " + length, cpu.stopped(), length == 0);
-      Check.due("run(64) of " + length, cpu.run(64), length);
-      Check.due("register(1) after " + length, cpu.register(1), length);
-      Check.due("pc() after " + length, cpu.pc(), length);
-      Check.due("stopped() after " + length, cpu.stopped(), true);
+      ScoreboardCpu cpu = counting(length, -1);
+      Check.due("run(64) with length " + length, cpu.run(64), length);
+      due("run(64) with length " + length, cpu, length, length, true);
     }
   }
 
-  private static void haltStops() {
-    ScoreboardCpu cpu = new ScoreboardCpu(2, 1, 1, 1);
-    cpu.emit(ScoreboardCpu.ADDI, 1, 1, 1);
-    cpu.emit(ScoreboardCpu.HALT, 1, 2, 3);
-    cpu.emit(ScoreboardCpu.ADDI, 1, 1, 10);
-    Check.due("run(64) up to HALT", cpu.run(64), 1);
-    Check.due("pc() on HALT", cpu.pc(), 1);
-    Check.due("stopped() on HALT", cpu.stopped(), true);
-    Check.due("run(64) on HALT", cpu.run(64), 0);
-    Check.due("pc() still on HALT", cpu.pc(), 1);
-    Check.due("register(1)", cpu.register(1), 1);
-    cpu.jump(2);
-    Check.due("stopped() behind HALT", cpu.stopped(), false);
-    Check.due("run(64) behind HALT", cpu.run(64), 1);
-    Check.due("register(1) at the end", cpu.register(1), 11);
+  // "the cell at pc holds `HALT`": in every cell, with a count just too small, just enough and
+  // just too large
+  private static void haltEndsARun() {
+    for (int halt = 0; halt < 32; halt++) {
+      for (int count : new int[] {halt - 1, halt, halt + 1, halt + 2, 64}) {
+        if (count >= 1) {
+          ScoreboardCpu cpu = counting(32, halt);
+          int executed = Math.min(count, halt);
+          String call = "run(" + count + ") with a HALT in " + halt;
+          Check.due(call, cpu.run(count), executed);
+          due(call, cpu, executed, executed, count >= halt);
+        }
+      }
+    }
   }
 
-  private static void branchesCountAndLeaveTheProgram() {
-    ScoreboardCpu cpu = new ScoreboardCpu(3, 1, 1, 1);
-    cpu.emit(ScoreboardCpu.ADDI, 1, 1, 1);
-    cpu.emit(ScoreboardCpu.BNE, 0, 1, 0);
-    cpu.setRegister(1, -3);
-    Check.due("run(64) of a loop of three rounds", cpu.run(64), 6);
-    cpu.reset();
-    cpu.emit(ScoreboardCpu.BEQ, 20, 0, 0);
-    Check.due("run(64) of a branch beyond length", cpu.run(64), 1);
-    Check.due("pc() there", cpu.pc(), 20);
-    Check.due("stopped() there", cpu.stopped(), true);
-    cpu.jump(0);
-    cpu.reset();
-    cpu.emit(ScoreboardCpu.BEQ, 1, 0, 0);
-    Check.due("run(64) of a branch to length", cpu.run(64), 1);
-    Check.due("pc() at length", cpu.pc(), 1);
-    Check.due("stopped() at length", cpu.stopped(), true);
-    cpu.reset();
-    cpu.emit(ScoreboardCpu.BEQ, 0, 0, 0);
-    Check.due("run(64) of a branch to itself", cpu.run(64), 64);
-    Check.due("pc() on it", cpu.pc(), 0);
+  // "until one of these holds, whichever is first"
+  private static void theFirstOfTheThreeEndsARun() {
+    for (int halt = 1; halt <= 12; halt++) {
+      for (int length = 1; length <= 12; length++) {
+        for (int count = 1; count <= 12; count++) {
+          ScoreboardCpu cpu = counting(length, halt);
+          int end = Math.min(halt, length);
+          int executed = Math.min(count, end);
+          String call = "run(" + count + "), HALT in " + halt + ", length " + length;
+          Check.due(call, cpu.run(count), executed);
+          due(call, cpu, executed, executed, executed == end);
+        }
+      }
+    }
   }
 
-  private static void faultsDoNotStop() {
+  // "A `HALT` is not executed: it is not counted and the pc stays on it."
+  private static void haltIsNotCountedAndThePcStays() {
+    for (int field : new int[] {MIN, -1, 0, 3, 8, 32, MAX}) {
+      ScoreboardCpu cpu = counting(1, -1);
+      cpu.emit(ScoreboardCpu.HALT, field, field, field);
+      cpu.emit(ScoreboardCpu.ADDI, 1, 1, 10);
+      Check.due("run(64) up to HALT", cpu.run(64), 1);
+      int[] before = State.of(cpu);
+      for (int count : new int[] {1, 2, 64}) {
+        Check.due("run(" + count + ") on HALT", cpu.run(count), 0);
+        Check.same("run(" + count + ") on HALT", before, State.of(cpu));
+      }
+      due("on HALT", cpu, 1, 1, true);
+      cpu.jump(2);
+      Check.due("run(64) behind HALT", cpu.run(64), 1);
+      due("behind HALT", cpu, 11, 3, true);
+    }
+    ScoreboardCpu branch = new ScoreboardCpu(1, 1, 1, 1);
+    branch.emit(ScoreboardCpu.BEQ, 2, 0, 0);
+    branch.emit(ScoreboardCpu.ADDI, 1, 1, 1);
+    branch.emit(ScoreboardCpu.HALT, 0, 0, 0);
+    Check.due("run(64) of a branch to HALT", branch.run(64), 1);
+    due("a branch to HALT", branch, 0, 2, true);
+  }
+
+  // "Branches are executed and counted like the other instructions.": taken and not taken
+  private static void branchesAreCounted() {
+    int[][] taken = {{ScoreboardCpu.BEQ, 0, 0}, {ScoreboardCpu.BNE, 0, 2}, {ScoreboardCpu.BLT, 0, 2}};
+    int[][] not = {{ScoreboardCpu.BEQ, 0, 2}, {ScoreboardCpu.BNE, 0, 0}, {ScoreboardCpu.BLT, 2, 0}};
+    for (int i = 0; i < 3; i++) {
+      ScoreboardCpu cpu = new ScoreboardCpu(1, 1, 1, 1);
+      cpu.setRegister(2, 5);
+      cpu.emit(not[i][0], 9, not[i][1], not[i][2]);
+      cpu.emit(taken[i][0], 3, taken[i][1], taken[i][2]);
+      cpu.emit(ScoreboardCpu.ADDI, 1, 1, 1);
+      cpu.emit(ScoreboardCpu.ADDI, 1, 1, 10);
+      Check.due("run(1) of a branch", cpu.run(1), 1);
+      due("a branch not taken", cpu, 0, 1, false);
+      Check.due("run(1) of a branch", cpu.run(1), 1);
+      due("a branch taken", cpu, 0, 3, false);
+      cpu.jump(0);
+      Check.due("run(64) with branches", cpu.run(64), 3);
+      due("both branches", cpu, 10, 4, true);
+    }
+  }
+
+  // "An instruction that raises a fault is executed and counted too"
+  private static void faultyInstructionsAreCounted() {
+    int[] ops = {ScoreboardCpu.DIV, ScoreboardCpu.REM, ScoreboardCpu.LOAD, ScoreboardCpu.STORE};
+    for (int op : ops) {
+      ScoreboardCpu cpu = new ScoreboardCpu(1, 1, 8, 8);
+      cpu.emit(op, 2, 0, op == ScoreboardCpu.DIV || op == ScoreboardCpu.REM ? 3 : -1);
+      cpu.emit(ScoreboardCpu.ADDI, 1, 1, 1);
+      Check.due("run(1) of faulty opcode " + op, cpu.run(1), 1);
+      due("faulty opcode " + op, cpu, 0, 1, false);
+      Check.due("faultCount()", cpu.faultCount(), 1);
+      cpu.jump(0);
+      Check.due("run(64) of faulty opcode " + op, cpu.run(64), 2);
+      due("behind faulty opcode " + op, cpu, 1, 2, true);
+    }
+  }
+
+  // "a fault never stops the machine"
+  private static void aFaultNeverStops() {
     ScoreboardCpu cpu = new ScoreboardCpu(1, 1, 8, 3);
-    cpu.emit(ScoreboardCpu.DIV, 1, 2, 0);
-    cpu.emit(ScoreboardCpu.LOAD, 1, 0, 32);
-    cpu.emit(ScoreboardCpu.STORE, 1, 0, -1);
-    cpu.emit(ScoreboardCpu.REM, 1, 2, 0);
-    cpu.emit(ScoreboardCpu.ADDI, 3, 0, 9);
-    Check.due("run(64) with faults", cpu.run(64), 5);
-    Check.due("register(3)", cpu.register(3), 9);
-    Check.due("pc()", cpu.pc(), 5);
-    Check.due("faultCount()", cpu.faultCount(), 4);
+    cpu.emit(ScoreboardCpu.DIV, 2, 2, 0);
+    cpu.emit(ScoreboardCpu.LOAD, 2, 0, 32);
+    cpu.emit(ScoreboardCpu.STORE, 2, 0, -1);
+    cpu.emit(ScoreboardCpu.REM, 2, 2, 0);
+    cpu.emit(ScoreboardCpu.ADDI, 1, 1, 1);
+    cpu.emit(ScoreboardCpu.BEQ, 0, 0, 0);
+    Check.due("run(64) with faults all the way", cpu.run(64), 64);
+    due("64 with faults", cpu, 10, 4, false);
+    Check.due("faultCount()", cpu.faultCount(), 44);
   }
 
+  // "An instruction executed several times in a call is counted each time."
+  private static void repeatedInstructionsAreCountedEachTime() {
+    for (int rounds = 1; rounds <= 32; rounds++) {
+      ScoreboardCpu cpu = new ScoreboardCpu(3, 1, 1, 1);
+      cpu.setRegister(2, rounds);
+      cpu.emit(ScoreboardCpu.ADDI, 1, 1, 1);
+      cpu.emit(ScoreboardCpu.BLT, 0, 1, 2);
+      Check.due("run(64) of " + rounds + " rounds", cpu.run(64), 2 * rounds);
+      due(rounds + " rounds", cpu, rounds, 2, true);
+    }
+  }
+
+  // "If the machine is stopped at the start of the call, the answer is 0 and nothing changes."
+  private static void aStoppedMachineAnswers0() {
+    for (int situation = 0; situation < Situations.COUNT; situation++) {
+      for (int count : new int[] {1, 2, 63, 64}) {
+        ScoreboardCpu cpu = Situations.make(situation);
+        String call = "run(" + count + ")" + Situations.name(situation);
+        int answer = cpu.run(count);
+        if (Situations.isStopped(situation)) {
+          Check.due(call, answer, 0);
+          Check.untouched(call, cpu, situation);
+        } else {
+          Check.due(call + " executes some, but not too many", answer >= 1 && answer <= count, true);
+        }
+      }
+    }
+  }
+
+  // "A stop is not remembered: a later `run` looks at the pc and the program afresh."
   private static void aStopIsNotRemembered() {
     ScoreboardCpu cpu = new ScoreboardCpu(1, 1, 1, 1);
     Check.due("run(1) of nothing", cpu.run(1), 0);
     cpu.jump(2);
     cpu.emit(ScoreboardCpu.ADDI, 1, 1, 1);
     cpu.emit(ScoreboardCpu.ADDI, 1, 1, 1);
-    Check.due("stopped() at length 2", cpu.stopped(), true);
     Check.due("run(1) at length 2", cpu.run(1), 0);
     cpu.emit(ScoreboardCpu.ADDI, 1, 1, 1);
-    Check.due("stopped() at length 3", cpu.stopped(), false);
-    Check.due("run(9) at length 3", cpu.run(9), 1);
+    Check.due("run(9) at 2 with length 3", cpu.run(9), 1);
     cpu.emit(ScoreboardCpu.HALT, 0, 0, 0);
-    Check.due("stopped() after HALT was emitted at pc", cpu.stopped(), true);
+    Check.due("run(9) on the new HALT", cpu.run(9), 0);
     cpu.jump(0);
-    Check.due("stopped() after jump(0)", cpu.stopped(), false);
     Check.due("run(64) from 0", cpu.run(64), 3);
-  }
-
-  private static void aStoppedRunChangesNothing() {
-    ScoreboardCpu cpu = State.used();
-    cpu.run(64);
-    int[] before = State.of(cpu);
-    Check.due("run(64) at length", cpu.run(64), 0);
-    cpu.stopped();
-    Check.same("run(64) at length", before, State.of(cpu));
-    cpu.emit(ScoreboardCpu.HALT, 1, 1, 1);
-    before = State.of(cpu);
+    cpu.emit(ScoreboardCpu.ADDI, 1, 1, 1);
     Check.due("run(64) on HALT", cpu.run(64), 0);
-    Check.same("run(64) on HALT", before, State.of(cpu));
+    cpu.jump(4);
+    Check.due("run(64) behind HALT", cpu.run(64), 1);
+    cpu.reset();
+    Check.due("run(64) after reset", cpu.run(64), 0);
+    cpu.emit(ScoreboardCpu.ADDI, 1, 1, 1);
+    Check.due("run(64) after reset and emit", cpu.run(64), 1);
   }
 
+  // "The program, its length and the latencies never change in `run`."
+  private static void programLengthAndLatenciesStay() {
+    for (int situation = 0; situation < Situations.COUNT; situation++) {
+      ScoreboardCpu cpu = Situations.make(situation);
+      int[] before = State.of(cpu);
+      for (int call = 0; call < 10; call++) {
+        cpu.jump(call * 3);
+        cpu.run(64 - call);
+      }
+      int[] after = State.of(cpu);
+      String what = "runs" + Situations.name(situation);
+      for (int entry = State.LATENCY_0; entry <= State.LENGTH; entry++) {
+        Check.due(what + ", then " + State.name(entry), after[entry], before[entry]);
+      }
+      Check.sameInside(what, Inside.program(cpu), Inside.program(Situations.make(situation)));
+    }
+  }
+
+  // "When the call answers, the effects of all instructions counted in it are complete", and a
+  // value set afterwards is not overrun by a late one
+  private static void allEffectsAreComplete() {
+    for (int latency = 1; latency <= 8; latency++) {
+      for (int op = ScoreboardCpu.ADD; op <= ScoreboardCpu.LOAD; op++) {
+        ScoreboardCpu cpu = new ScoreboardCpu(latency, latency, latency, latency);
+        cpu.setRegister(1, 13);
+        cpu.setRegister(2, 4);
+        cpu.setMemory(15, 99);
+        cpu.emit(op, 3, 1, 2);
+        cpu.emit(ScoreboardCpu.BEQ, 0, 0, 0);
+        cpu.run(1);
+        int due = new int[] {0, 17, 9, 15, 0, 52, 3, 1, 99}[op];
+        Check.due("opcode " + op + ", latency " + latency, cpu.register(3), due);
+        cpu.setRegister(3, -5);
+        cpu.run(1);
+        Check.due("register(3) set afterwards", cpu.register(3), -5);
+      }
+      lastStoreIsComplete(latency);
+    }
+  }
+
+  private static void lastStoreIsComplete(int latency) {
+    ScoreboardCpu cpu = new ScoreboardCpu(latency, latency, latency, latency);
+    cpu.setRegister(3, 77);
+    cpu.emit(ScoreboardCpu.STORE, 3, 0, 31);
+    cpu.emit(ScoreboardCpu.BEQ, 0, 0, 0);
+    cpu.run(1);
+    Check.due("STORE, latency " + latency, cpu.memory(31), 77);
+    cpu.setMemory(31, -5);
+    cpu.run(1);
+    Check.due("memory(31) set afterwards", cpu.memory(31), -5);
+  }
+
+  // "and no other instruction has had any effect": none before the pc, none behind the last one
+  // counted, none that a branch has left out, and none behind a HALT
+  private static void noOtherInstructionHasAnEffect() {
+    for (int from = 0; from < 32; from++) {
+      for (int count = 1; count <= 32; count++) {
+        ScoreboardCpu cpu = new ScoreboardCpu(8, 1, 1, 1);
+        for (int cell = 0; cell < 32; cell++) {
+          cpu.emit(ScoreboardCpu.ADDI, cell % 8, cell % 8, 1 << cell);
+        }
+        cpu.jump(from);
+        int executed = cpu.run(count);
+        Check.due("run(" + count + ") from " + from, executed, Math.min(count, 32 - from));
+        int sum = 0;
+        for (int index = 0; index < 8; index++) {
+          sum += cpu.register(index);
+        }
+        int due = (int) (((1L << executed) - 1) << from);
+        Check.due("what run(" + count + ") from " + from + " did", sum, due);
+      }
+    }
+    ScoreboardCpu cpu = new ScoreboardCpu(8, 8, 8, 8);
+    cpu.emit(ScoreboardCpu.BEQ, 2, 0, 0);
+    cpu.emit(ScoreboardCpu.STORE, 7, 0, 5);
+    cpu.emit(ScoreboardCpu.HALT, 0, 0, 0);
+    cpu.emit(ScoreboardCpu.DIV, 1, 7, 0);
+    cpu.setRegister(7, 9);
+    int[] before = State.of(cpu);
+    Check.due("run(64)", cpu.run(64), 1);
+    Check.same("left out, and behind a HALT", before, State.of(cpu), State.PC, State.STOPPED);
+  }
+
+  // "Splitting a run into several calls gives the same result as one call executing the same
+  // instructions."
   private static void splittingMakesNoDifference() {
-    int[] whole = State.of(mixed(64, 64));
-    for (int part = 1; part < 64; part++) {
-      Check.same("64 instructions in parts of " + part, whole, State.of(mixed(64, part)));
+    for (int total : new int[] {2, 31, 63, 64}) {
+      int[] whole = State.of(mixed(total, total));
+      for (int part = 1; part < total; part++) {
+        String what = total + " instructions in parts of " + part;
+        Check.same(what, whole, State.of(mixed(total, part)));
+      }
     }
   }
 
@@ -164,30 +370,5 @@ public final class RunTest {
       left -= asked;
     }
     return cpu;
-  }
-
-  // A slow result must be there when the call answers, and a value set then must not be overrun.
-  private static void nothingIsLeftUnfinished() {
-    ScoreboardCpu cpu = new ScoreboardCpu(8, 8, 8, 8);
-    cpu.setRegister(1, 6);
-    cpu.emit(ScoreboardCpu.ADDI, 2, 1, 1);
-    cpu.emit(ScoreboardCpu.MUL, 3, 1, 1);
-    cpu.emit(ScoreboardCpu.DIV, 4, 1, 1);
-    cpu.emit(ScoreboardCpu.STORE, 1, 0, 31);
-    cpu.emit(ScoreboardCpu.ADDI, 5, 1, 100);
-    Check.due("run(4)", cpu.run(4), 4);
-    Check.due("register(2)", cpu.register(2), 7);
-    Check.due("register(3)", cpu.register(3), 36);
-    Check.due("register(4)", cpu.register(4), 1);
-    Check.due("memory(31)", cpu.memory(31), 6);
-    Check.due("register(5), not yet executed", cpu.register(5), 0);
-    cpu.setRegister(2, 70);
-    cpu.setRegister(4, 10);
-    cpu.setMemory(31, 60);
-    cpu.run(64);
-    Check.due("register(2) set after the run", cpu.register(2), 70);
-    Check.due("register(4) set after the run", cpu.register(4), 10);
-    Check.due("memory(31) set after the run", cpu.memory(31), 60);
-    Check.due("register(5)", cpu.register(5), 106);
   }
 }

@@ -1,0 +1,4 @@
+/** A call on an object, with its answer. */
+interface Call {
+  int on(ScoreboardCpu cpu);
+}

@@ -1,0 +1,139 @@
+import java.util.Arrays;
+
+/**
+ * What it is: "every call leaves the machine drained: no instruction is left unfinished when a call
+ * answers", and "Every answer is the one given by executing the instructions one at a time in
+ * program order, as defined below, for every program and every choice of latencies."
+ *
+ * Every pair and every triple of short instructions over two registers, under latencies that let
+ * a later one be done first.
+ */
+public final class OverlapTest {
+  private static final int[][] LATENCIES = {
+    {1, 1, 1, 1}, {8, 1, 1, 1}, {1, 8, 1, 1}, {1, 1, 8, 1}, {1, 1, 1, 8}, {2, 3, 4, 5}, {8, 8, 8, 8}
+  };
+  private static final int[] EXTREMES = {1, 2, 8};
+  private static final int[][] SHAPES = shapes();
+
+  public static void main(String[] args) {
+    pairsUnderAllExtremes();
+    triples();
+    drainedAfterEveryCount();
+    Check.end();
+  }
+
+  // Opcodes 1 to 12 over R[1] and R[2]; the constant 0, or one that makes a LOAD or STORE faulty.
+  private static int[][] shapes() {
+    int[][] shapes = new int[12 * 8][];
+    int free = 0;
+    for (int op = ScoreboardCpu.ADD; op <= ScoreboardCpu.BLT; op++) {
+      boolean anyB = op == ScoreboardCpu.ADDI || op == ScoreboardCpu.LOAD || op == ScoreboardCpu.STORE;
+      for (int code = 0; code < 8; code++) {
+        int d = code % 2 + 1;
+        int b = code / 4 + 1;
+        shapes[free++] = new int[] {op, d, code / 2 % 2 + 1, anyB ? (b - 1) * 40 : b};
+      }
+    }
+    return shapes;
+  }
+
+  private static void pairsUnderAllExtremes() {
+    for (int[] first : SHAPES) {
+      for (int[] second : SHAPES) {
+        int[] due = plain(first, second);
+        for (int code = 0; code < 81 && !Check.failed(); code++) {
+          int[] latencies = {
+            EXTREMES[code % 3], EXTREMES[code / 3 % 3], EXTREMES[code / 9 % 3], EXTREMES[code / 27]
+          };
+          compare(due, latencies, first, second);
+        }
+      }
+    }
+  }
+
+  private static void triples() {
+    for (int[] first : SHAPES) {
+      for (int[] second : SHAPES) {
+        // Of the last one every opcode and one choice of registers in two are enough.
+        for (int i = 0; i < SHAPES.length && !Check.failed(); i += 2) {
+          int[] due = plain(first, second, SHAPES[i]);
+          int[] latencies = LATENCIES[(first[0] + 3 * second[0] + i) % LATENCIES.length];
+          compare(due, latencies, first, second, SHAPES[i]);
+        }
+      }
+    }
+  }
+
+  private static int[] plain(int[]... program) {
+    PlainCpu plain = new PlainCpu(1, 1, 1, 1);
+    plain.setRegister(1, 12);
+    plain.setRegister(2, 5);
+    plain.setMemory(12, 3);
+    for (int[] each : program) {
+      plain.emit(each[0], each[1], each[2], each[3]);
+    }
+    int executed = plain.run(5);
+    return outcome(executed, plain.state());
+  }
+
+  private static void compare(int[] due, int[] latencies, int[]... program) {
+    ScoreboardCpu cpu = new ScoreboardCpu(latencies[0], latencies[1], latencies[2], latencies[3]);
+    cpu.setRegister(1, 12);
+    cpu.setRegister(2, 5);
+    cpu.setMemory(12, 3);
+    for (int[] each : program) {
+      cpu.emit(each[0], each[1], each[2], each[3]);
+    }
+    int executed = cpu.run(5);
+    int[] got = outcome(executed, State.of(cpu));
+    if (!Arrays.equals(got, due)) {
+      String what = Arrays.deepToString(program) + " with latencies " + Arrays.toString(latencies);
+      Check.due(what + ", run(5)", executed, due[State.SIZE]);
+      Check.same(what, Arrays.copyOf(due, State.SIZE), got);
+    }
+  }
+
+  private static int[] outcome(int executed, int[] state) {
+    int[] outcome = Arrays.copyOf(state, State.SIZE + 1);
+    Arrays.fill(outcome, State.LATENCY_0, State.LENGTH, 0);
+    outcome[State.SIZE] = executed;
+    return outcome;
+  }
+
+  // A call that ends while units would still be at work: everything can be changed then, and
+  // nothing comes in late.
+  private static void drainedAfterEveryCount() {
+    for (int[] latencies : LATENCIES) {
+      for (int count = 1; count <= 4; count++) {
+        ScoreboardCpu cpu = new ScoreboardCpu(latencies[0], latencies[1], latencies[2], latencies[3]);
+        cpu.setRegister(1, 6);
+        cpu.emit(ScoreboardCpu.DIV, 4, 1, 1);
+        cpu.emit(ScoreboardCpu.MUL, 3, 1, 1);
+        cpu.emit(ScoreboardCpu.STORE, 1, 0, 31);
+        cpu.emit(ScoreboardCpu.ADDI, 2, 1, 1);
+        cpu.run(count);
+        String what = "after run(" + count + ")";
+        Check.due("register(4) " + what, cpu.register(4), 1);
+        Check.due("register(3) " + what, cpu.register(3), count >= 2 ? 36 : 0);
+        Check.due("memory(31) " + what, cpu.memory(31), count >= 3 ? 6 : 0);
+        Check.due("register(2) " + what, cpu.register(2), count >= 4 ? 7 : 0);
+        nothingComesLate(cpu);
+      }
+    }
+  }
+
+  private static void nothingComesLate(ScoreboardCpu cpu) {
+    cpu.reset();
+    for (int index = 1; index < 8; index++) {
+      cpu.setRegister(index, -index);
+    }
+    cpu.setMemory(31, 60);
+    for (int cell = 0; cell < 12; cell++) {
+      cpu.emit(ScoreboardCpu.ADDI, 0, 0, 1);
+    }
+    int[] before = State.of(cpu);
+    cpu.run(64);
+    Check.due("register(0)", cpu.register(0), 12);
+    Check.same("twelve cycles and more later", before, State.of(cpu), 0, State.PC, State.STOPPED);
+  }
+}
