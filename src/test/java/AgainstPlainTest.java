@@ -59,9 +59,19 @@ public final class AgainstPlainTest {
     int value = anyInt();
     String what = "object " + object + ": ";
     switch (below(12)) {
-      case 0 -> Check.due(what + "setLatency", cpu.setLatency(where % 8, value), plain.setLatency(where % 8, value));
-      case 1 -> Check.due(what + "setRegister", cpu.setRegister(where % 10, value), plain.setRegister(where % 10, value));
-      case 2 -> Check.due(what + "setMemory", cpu.setMemory(where, value), plain.setMemory(where, value));
+      case 0 -> {
+        int unit = where % 8;
+        Check.due(what + "setLatency", cpu.setLatency(unit, value), plain.setLatency(unit, value));
+      }
+      case 1 -> {
+        int index = where % 10;
+        int due = plain.setRegister(index, value);
+        Check.due(what + "setRegister", cpu.setRegister(index, value), due);
+      }
+      case 2 -> {
+        int due = plain.setMemory(where, value);
+        Check.due(what + "setMemory", cpu.setMemory(where, value), due);
+      }
       case 3, 4 -> Check.due(what + "jump", cpu.jump(where), plain.jump(where));
       case 5, 6 -> emit(object, cpu, plain, registers);
       case 7 -> {

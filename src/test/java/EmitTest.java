@@ -65,9 +65,11 @@ public final class EmitTest {
     for (int op : ops) {
       for (int field : ANY) {
         String call = "emit(" + op + ", " + field + ", " + field + ", " + field + ")";
-        Check.due(call + " when full", withLength(32).emit(op, field, field, field), ScoreboardCpu.FULL);
+        int full = withLength(32).emit(op, field, field, field);
+        Check.due(call + " when full", full, ScoreboardCpu.FULL);
         int almost = withLength(31).emit(op, field, field, field);
-        Check.due(call + " with a cell free", almost, isAccepted(op, field, field, field) ? 31 : -1);
+        boolean accepted = isAccepted(op, field, field, field);
+        Check.due(call + " with a cell free", almost, accepted ? 31 : ScoreboardCpu.REFUSED);
       }
     }
   }

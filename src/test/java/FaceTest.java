@@ -49,7 +49,7 @@ public final class FaceTest {
         hiddenNames.add(method.getName());
         continue;
       }
-      Check.due(method.getName() + " is public and no more", method.getModifiers(), Modifier.PUBLIC);
+      Check.due(method.getName() + " is just public", method.getModifiers(), Modifier.PUBLIC);
       openNames.add(method.getName());
       String parameters = Arrays.toString(method.getParameterTypes()).replaceAll("[\\[\\] ]", "");
       open.add(method.getReturnType() + " " + method.getName() + "(" + parameters + ")");
@@ -75,11 +75,12 @@ public final class FaceTest {
   private static void fieldsKeepTheRules(Class<?> type) {
     int count = 0;
     for (Field field : type.getDeclaredFields()) {
-      Class<?> of = field.getType().isArray() ? field.getType().getComponentType() : field.getType();
+      Class<?> told = field.getType();
+      Class<?> of = told.isArray() ? told.getComponentType() : told;
       boolean whole = of.isPrimitive() && of != float.class && of != double.class;
       Check.due(field.getName() + " is of whole numbers", whole, true);
       if (Modifier.isStatic(field.getModifiers())) {
-        boolean constant = Modifier.isFinal(field.getModifiers()) && !field.getType().isArray();
+        boolean constant = Modifier.isFinal(field.getModifiers()) && !told.isArray();
         Check.due(field.getName() + " is a static constant", constant, true);
       } else {
         count++;

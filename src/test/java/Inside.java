@@ -6,7 +6,7 @@ final class Inside {
 
   private Inside() {}
 
-  /** Runs on from the pc, then each cell alone, then fills the program up: the object is used up. */
+  /** Runs on from the pc, then each cell alone, then fills the program up: this uses it up. */
   static int[] of(ScoreboardCpu cpu) {
     int[] told = new int[2 + State.SIZE + PROGRAM + 33];
     int free = 0;

@@ -7,6 +7,7 @@ public final class InstructionTest {
   };
 
   public static void main(String[] args) {
+    haltIgnoresItsFields();
     everyPairOfValues();
     addWraps();
     subWraps();
@@ -30,6 +31,26 @@ public final class InstructionTest {
     branchesToLengthAndBeyond();
     branchesChangeThePcAlone();
     Check.end();
+  }
+
+  // "not executed, see above; all three fields are ignored": whatever they would name
+  private static void haltIgnoresItsFields() {
+    int[] fields = {MIN, -1, 0, 1, 7, 8, 31, 32, MAX};
+    for (int d : fields) {
+      for (int a : fields) {
+        for (int b : fields) {
+          ScoreboardCpu cpu = State.used();
+          cpu.reset();
+          cpu.emit(ScoreboardCpu.HALT, d, a, b);
+          cpu.emit(ScoreboardCpu.ADD, 1, 1, 1);
+          int[] before = State.of(cpu);
+          String what = "HALT with " + d + ", " + a + ", " + b;
+          Check.due(what + ", run(64)", cpu.run(64), 0);
+          Check.due(what + ", stopped()", cpu.stopped(), true);
+          Check.same(what, before, State.of(cpu));
+        }
+      }
+    }
   }
 
   private static void everyPairOfValues() {

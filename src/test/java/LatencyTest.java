@@ -83,7 +83,8 @@ public final class LatencyTest {
   private static void noLaterAnswerDependsOnIt() {
     int[] first = stateAfterOverlap(1, 1, 1, 1);
     for (int code = 0; code < 4096; code++) {
-      int[] next = stateAfterOverlap(code % 8 + 1, code / 8 % 8 + 1, code / 64 % 8 + 1, code / 512 + 1);
+      int[] next =
+          stateAfterOverlap(code % 8 + 1, code / 8 % 8 + 1, code / 64 % 8 + 1, code / 512 + 1);
       Check.same("run with latencies of code " + code, first, next, 40, 41, 42, 43);
     }
   }

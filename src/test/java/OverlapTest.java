@@ -27,7 +27,8 @@ public final class OverlapTest {
     int[][] shapes = new int[12 * 8][];
     int free = 0;
     for (int op = ScoreboardCpu.ADD; op <= ScoreboardCpu.BLT; op++) {
-      boolean anyB = op == ScoreboardCpu.ADDI || op == ScoreboardCpu.LOAD || op == ScoreboardCpu.STORE;
+      boolean memory = op == ScoreboardCpu.LOAD || op == ScoreboardCpu.STORE;
+      boolean anyB = memory || op == ScoreboardCpu.ADDI;
       for (int code = 0; code < 8; code++) {
         int d = code % 2 + 1;
         int b = code / 4 + 1;
@@ -64,6 +65,10 @@ public final class OverlapTest {
     }
   }
 
+  private static ScoreboardCpu made(int[] latencies) {
+    return new ScoreboardCpu(latencies[0], latencies[1], latencies[2], latencies[3]);
+  }
+
   private static int[] plain(int[]... program) {
     PlainCpu plain = new PlainCpu(1, 1, 1, 1);
     plain.setRegister(1, 12);
@@ -77,7 +82,7 @@ public final class OverlapTest {
   }
 
   private static void compare(int[] due, int[] latencies, int[]... program) {
-    ScoreboardCpu cpu = new ScoreboardCpu(latencies[0], latencies[1], latencies[2], latencies[3]);
+    ScoreboardCpu cpu = made(latencies);
     cpu.setRegister(1, 12);
     cpu.setRegister(2, 5);
     cpu.setMemory(12, 3);
@@ -105,7 +110,7 @@ public final class OverlapTest {
   private static void drainedAfterEveryCount() {
     for (int[] latencies : LATENCIES) {
       for (int count = 1; count <= 4; count++) {
-        ScoreboardCpu cpu = new ScoreboardCpu(latencies[0], latencies[1], latencies[2], latencies[3]);
+        ScoreboardCpu cpu = made(latencies);
         cpu.setRegister(1, 6);
         cpu.emit(ScoreboardCpu.DIV, 4, 1, 1);
         cpu.emit(ScoreboardCpu.MUL, 3, 1, 1);

@@ -109,8 +109,9 @@ public final class RefusedTest {
   }
 
   private static void emitIntoAFullProgram() {
-    for (int situation = 0; situation < Situations.COUNT; situation++) {
-      for (int op = ScoreboardCpu.HALT; Situations.isFull(situation) && op <= ScoreboardCpu.BLT; op++) {
+    int[] full = {Situations.FULL, Situations.FULL_AT_32, Situations.FULL_WITHOUT_FAULT};
+    for (int situation : full) {
+      for (int op = ScoreboardCpu.HALT; op <= ScoreboardCpu.BLT; op++) {
         int opcode = op;
         String name = "emit(" + op + ", 1, 2, 3)";
         refusedIn(situation, name, cpu -> cpu.emit(opcode, 1, 2, 3), ScoreboardCpu.FULL);

@@ -15,9 +15,11 @@ public final class RunTest {
     faultyInstructionsAreCounted();
     aFaultNeverStops();
     repeatedInstructionsAreCountedEachTime();
+    theAnswerIsOfThisCallAlone();
     aStoppedMachineAnswers0();
     aStopIsNotRemembered();
     programLengthAndLatenciesStay();
+    theRestChangesOnlyAsTheInstructionsSay();
     allEffectsAreComplete();
     noOtherInstructionHasAnEffect();
     splittingMakesNoDifference();
@@ -153,8 +155,12 @@ public final class RunTest {
 
   // "Branches are executed and counted like the other instructions.": taken and not taken
   private static void branchesAreCounted() {
-    int[][] taken = {{ScoreboardCpu.BEQ, 0, 0}, {ScoreboardCpu.BNE, 0, 2}, {ScoreboardCpu.BLT, 0, 2}};
-    int[][] not = {{ScoreboardCpu.BEQ, 0, 2}, {ScoreboardCpu.BNE, 0, 0}, {ScoreboardCpu.BLT, 2, 0}};
+    int[][] taken = {
+      {ScoreboardCpu.BEQ, 0, 0}, {ScoreboardCpu.BNE, 0, 2}, {ScoreboardCpu.BLT, 0, 2}
+    };
+    int[][] not = {
+      {ScoreboardCpu.BEQ, 0, 2}, {ScoreboardCpu.BNE, 0, 0}, {ScoreboardCpu.BLT, 2, 0}
+    };
     for (int i = 0; i < 3; i++) {
       ScoreboardCpu cpu = new ScoreboardCpu(1, 1, 1, 1);
       cpu.setRegister(2, 5);
@@ -214,6 +220,20 @@ public final class RunTest {
     }
   }
 
+  // "The answer is how many instructions were executed in this call, 0..count.": all of them, none
+  // of an earlier call, and fewer than count where the program ends
+  private static void theAnswerIsOfThisCallAlone() {
+    for (int count = 1; count <= 64; count++) {
+      ScoreboardCpu cpu = counting(32, -1);
+      int left = 32;
+      for (int call = 0; call < 34; call++) {
+        int due = Math.min(count, left);
+        Check.due("run(" + count + ") with " + left + " left", cpu.run(count), due);
+        left -= due;
+      }
+    }
+  }
+
   // "If the machine is stopped at the start of the call, the answer is 0 and nothing changes."
   private static void aStoppedMachineAnswers0() {
     for (int situation = 0; situation < Situations.COUNT; situation++) {
@@ -225,7 +245,7 @@ public final class RunTest {
           Check.due(call, answer, 0);
           Check.untouched(call, cpu, situation);
         } else {
-          Check.due(call + " executes some, but not too many", answer >= 1 && answer <= count, true);
+          Check.due(call + " executes 1..count", answer >= 1 && answer <= count, true);
         }
       }
     }
@@ -270,6 +290,31 @@ public final class RunTest {
         Check.due(what + ", then " + State.name(entry), after[entry], before[entry]);
       }
       Check.sameInside(what, Inside.program(cpu), Inside.program(Situations.make(situation)));
+    }
+  }
+
+  // "Registers, memory words, the pc and the faults change only as the executed instructions say.":
+  // step by step beside the plain machine, in a program that uses every opcode
+  private static void theRestChangesOnlyAsTheInstructionsSay() {
+    for (int start = 1; start <= 12; start++) {
+      ScoreboardCpu cpu = new ScoreboardCpu(4, 5, 6, 7);
+      PlainCpu plain = new PlainCpu(4, 5, 6, 7);
+      for (int index = 0; index < 8; index++) {
+        cpu.setRegister(index, 9 * index - 20);
+        plain.setRegister(index, 9 * index - 20);
+      }
+      for (int cell = 0; cell < 32; cell++) {
+        int op = (start + cell * 5) % 12 + 1;
+        int b = (cell * 3 + start) % 8;
+        cpu.emit(op, cell % 8, (cell + start) % 8, b);
+        plain.emit(op, cell % 8, (cell + start) % 8, b);
+      }
+      for (int step = 0; step < 200; step++) {
+        int count = step % 5 + 1;
+        String call = "run(" + count + ") in step " + step + " of program " + start;
+        Check.due(call, cpu.run(count), plain.run(count));
+        Check.same(call, plain.state(), State.of(cpu));
+      }
     }
   }
 

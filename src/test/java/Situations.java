@@ -11,11 +11,13 @@ final class Situations {
   static final int AFTER_RESET = 8;
   static final int AFTER_WORK_IN_ALL_UNITS = 9;
   static final int EMPTY_AT_31 = 10;
-  static final int COUNT = 11;
+  static final int FULL_WITHOUT_FAULT = 11;
+  static final int COUNT = 12;
 
   private static final String[] NAMES = {
     "fresh", "before an ADD", "at length", "on a HALT", "beyond length", "one cell free", "full",
-    "full, at 32", "after a reset", "after work in all units", "empty, at 31"
+    "full, at 32", "after a reset", "after work in all units", "empty, at 31",
+    "full, without a fault"
   };
 
   private Situations() {}
@@ -25,7 +27,7 @@ final class Situations {
   }
 
   static boolean isFull(int situation) {
-    return situation == FULL || situation == FULL_AT_32;
+    return situation == FULL || situation == FULL_AT_32 || situation == FULL_WITHOUT_FAULT;
   }
 
   static boolean isStopped(int situation) {
@@ -47,6 +49,7 @@ final class Situations {
       case FULL -> fillUpTo(cpu, 32);
       case FULL_AT_32 -> runFullProgram(cpu);
       case AFTER_RESET -> cpu.reset();
+      case FULL_WITHOUT_FAULT -> fillAnew(cpu);
       case AFTER_WORK_IN_ALL_UNITS -> workInAllUnits(cpu);
       default -> { }
     }
@@ -71,6 +74,11 @@ final class Situations {
     for (int cell = cpu.length(); cell < length; cell++) {
       cpu.emit(cell % 9 + 1, cell % 8, (cell + 3) % 8, (cell + 5) % 8);
     }
+  }
+
+  private static void fillAnew(ScoreboardCpu cpu) {
+    cpu.reset();
+    fillUpTo(cpu, 32);
   }
 
   private static void runFullProgram(ScoreboardCpu cpu) {

@@ -42,7 +42,9 @@ final class State {
     if (entry < LENGTH) {
       return "latency(" + (entry - LATENCY_0) + ")";
     }
-    String[] rest = {"length()", "pc()", "stopped()", "faultCount()", "firstFault()", "lastFault()"};
+    String[] rest = {
+      "length()", "pc()", "stopped()", "faultCount()", "firstFault()", "lastFault()"
+    };
     return rest[entry - LENGTH];
   }
 
