@@ -8,6 +8,7 @@ public final class AgainstPlainTest {
 
   // A counting rule of our own, so that every run of the test makes the same calls.
   private static long seed = 20261115L;
+  private static boolean near = false;
 
   public static void main(String[] args) {
     for (int object = 0; object < OBJECTS && !Check.failed(); object++) {
@@ -29,18 +30,28 @@ public final class AgainstPlainTest {
     return choice == 1 ? below(Integer.MAX_VALUE) * 2 + below(2) : below(40) - 4;
   }
 
+  private static int anyLatency() {
+    return below(4) == 0 ? anyInt() : below(8) + 1;
+  }
+
+  private static int anyValue() {
+    return near ? below(24) - 2 : anyInt();
+  }
+
   private static int mostlyBelow(int bound) {
     return below(20) == 0 ? anyInt() : below(bound);
   }
 
   private static void oneObject(int object) {
-    int[] given = {anyInt(), anyInt(), anyInt(), anyInt()};
+    int[] given = {anyLatency(), anyLatency(), anyLatency(), anyLatency()};
+    // In every second object the values given are small: most addresses are inside the memory.
+    near = object % 2 == 1;
     ScoreboardCpu cpu = new ScoreboardCpu(given[0], given[1], given[2], given[3]);
     PlainCpu plain = new PlainCpu(given);
     // Few registers make many conflicts; many registers make much overlap.
     int registers = 2 + below(7);
     for (int index = 0; index < 8; index++) {
-      int value = anyInt();
+      int value = anyValue();
       cpu.setRegister(index, value);
       plain.setRegister(index, value);
     }
@@ -56,12 +67,14 @@ public final class AgainstPlainTest {
 
   private static void oneCall(int object, ScoreboardCpu cpu, PlainCpu plain, int registers) {
     int where = mostlyBelow(32);
-    int value = anyInt();
+    int value = anyValue();
     String what = "object " + object + ": ";
     switch (below(12)) {
       case 0 -> {
         int unit = where % 8;
-        Check.due(what + "setLatency", cpu.setLatency(unit, value), plain.setLatency(unit, value));
+        int cycles = anyLatency();
+        int due = plain.setLatency(unit, cycles);
+        Check.due(what + "setLatency", cpu.setLatency(unit, cycles), due);
       }
       case 1 -> {
         int index = where % 10;
@@ -91,7 +104,7 @@ public final class AgainstPlainTest {
     int op = below(30) == 0 ? below(16) - 1 : 1 + below(12);
     int d = op >= 10 ? mostlyBelow(32) : mostlyBelow(registers);
     int a = mostlyBelow(registers);
-    int b = op == 3 || op == 8 || op == 9 ? anyInt() : mostlyBelow(registers);
+    int b = op == 3 || op == 8 || op == 9 ? anyValue() : mostlyBelow(registers);
     String call = "object " + object + ": emit(" + op + ", " + d + ", " + a + ", " + b + ")";
     Check.due(call, cpu.emit(op, d, a, b), plain.emit(op, d, a, b));
   }

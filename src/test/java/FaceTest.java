@@ -80,7 +80,8 @@ public final class FaceTest {
       boolean whole = of.isPrimitive() && of != float.class && of != double.class;
       Check.due(field.getName() + " is of whole numbers", whole, true);
       if (Modifier.isStatic(field.getModifiers())) {
-        boolean constant = Modifier.isFinal(field.getModifiers()) && !told.isArray();
+        boolean number = told == int.class || told == long.class;
+        boolean constant = Modifier.isFinal(field.getModifiers()) && number;
         Check.due(field.getName() + " is a static constant", constant, true);
       } else {
         count++;

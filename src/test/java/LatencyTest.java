@@ -81,16 +81,34 @@ public final class LatencyTest {
   // "No later answer other than that of `latency` for this unit depends on the new value." and of
   // What it is: "Latencies show in the answers of `latency(unit)` and nowhere else."
   private static void noLaterAnswerDependsOnIt() {
-    int[] first = stateAfterOverlap(1, 1, 1, 1);
+    ScoreboardCpu first = overlapping(1, 1, 1, 1);
+    int[] answers = laterAnswers(first);
+    int[] state = State.of(first);
     for (int code = 0; code < 4096; code++) {
-      int[] next =
-          stateAfterOverlap(code % 8 + 1, code / 8 % 8 + 1, code / 64 % 8 + 1, code / 512 + 1);
-      Check.same("run with latencies of code " + code, first, next, 40, 41, 42, 43);
+      ScoreboardCpu next =
+          overlapping(code % 8 + 1, code / 8 % 8 + 1, code / 64 % 8 + 1, code / 512 + 1);
+      String what = "latencies of code " + code;
+      int[] nextAnswers = laterAnswers(next);
+      for (int i = 0; i < answers.length; i++) {
+        Check.due("later answer " + i + " with " + what, nextAnswers[i], answers[i]);
+      }
+      Check.same("run with " + what, state, State.of(next), 40, 41, 42, 43);
     }
   }
 
+  // Every call that answers a number, with right and with wrong arguments, between runs.
+  private static int[] laterAnswers(ScoreboardCpu cpu) {
+    return new int[] {
+      cpu.run(25), cpu.pc(), cpu.faultCount(), cpu.lastFault(), cpu.run(1), cpu.run(65),
+      cpu.setRegister(2, 3), cpu.setRegister(8, 3), cpu.setMemory(31, 6), cpu.setMemory(32, 6),
+      cpu.emit(ScoreboardCpu.STORE, 5, 0, 9), cpu.emit(ScoreboardCpu.DIV, 5, 0, 9), cpu.length(),
+      cpu.jump(2), cpu.run(12), cpu.register(5), cpu.memory(3), cpu.jump(32), cpu.run(64),
+      cpu.stopped() ? 1 : 0, cpu.firstFault(), cpu.setLatency(4, 1), cpu.latency(-1)
+    };
+  }
+
   // Each line after the first depends on an earlier one through a register or a memory word.
-  private static int[] stateAfterOverlap(int adder, int multiplier, int divider, int memoryUnit) {
+  private static ScoreboardCpu overlapping(int adder, int multiplier, int divider, int memoryUnit) {
     ScoreboardCpu cpu = new ScoreboardCpu(1, 1, 1, 1);
     cpu.setRegister(1, 91);
     cpu.setRegister(2, 7);
@@ -109,8 +127,7 @@ public final class LatencyTest {
     cpu.setLatency(1, multiplier);
     cpu.setLatency(2, divider);
     cpu.setLatency(3, memoryUnit);
-    cpu.run(25);
-    return State.of(cpu);
+    return cpu;
   }
 
   // "`latency(unit)` answers the present latency of the unit, 1..8"

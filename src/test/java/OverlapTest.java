@@ -12,11 +12,11 @@ public final class OverlapTest {
   private static final int[][] LATENCIES = {
     {1, 1, 1, 1}, {8, 1, 1, 1}, {1, 8, 1, 1}, {1, 1, 8, 1}, {1, 1, 1, 8}, {2, 3, 4, 5}, {8, 8, 8, 8}
   };
-  private static final int[] EXTREMES = {1, 2, 8};
+  private static final int[] UNIT_OF = {0, 0, 0, 0, 0, 1, 2, 2, 3, 3, 0, 0, 0};
   private static final int[][] SHAPES = shapes();
 
   public static void main(String[] args) {
-    pairsUnderAllExtremes();
+    pairsUnderAllLatencies();
     triples();
     drainedAfterEveryCount();
     Check.end();
@@ -38,28 +38,34 @@ public final class OverlapTest {
     return shapes;
   }
 
-  private static void pairsUnderAllExtremes() {
+  // A pair uses two units at most: every pair of latencies of these, the others quick or slow.
+  private static void pairsUnderAllLatencies() {
     for (int[] first : SHAPES) {
       for (int[] second : SHAPES) {
         int[] due = plain(first, second);
-        for (int code = 0; code < 81 && !Check.failed(); code++) {
-          int[] latencies = {
-            EXTREMES[code % 3], EXTREMES[code / 3 % 3], EXTREMES[code / 9 % 3], EXTREMES[code / 27]
-          };
+        for (int code = 0; code < 64 && !Check.failed(); code++) {
+          int others = (code + code / 8) % 2 == 0 ? 1 : 8;
+          int[] latencies = {others, others, others, others};
+          latencies[UNIT_OF[first[0]]] = code / 8 + 1;
+          latencies[UNIT_OF[second[0]]] = code % 8 + 1;
           compare(due, latencies, first, second);
         }
       }
     }
   }
 
+  // Each triple under one of the 4096 choices of latencies, spread over all of them.
   private static void triples() {
+    int counter = 0;
     for (int[] first : SHAPES) {
       for (int[] second : SHAPES) {
         // Of the last one every opcode and one choice of registers in two are enough.
         for (int i = 0; i < SHAPES.length && !Check.failed(); i += 2) {
-          int[] due = plain(first, second, SHAPES[i]);
-          int[] latencies = LATENCIES[(first[0] + 3 * second[0] + i) % LATENCIES.length];
-          compare(due, latencies, first, second, SHAPES[i]);
+          int code = ++counter * 0x9E3779B1 >>> 20;
+          int[] latencies = {
+            code % 8 + 1, code / 8 % 8 + 1, code / 64 % 8 + 1, code / 512 + 1
+          };
+          compare(plain(first, second, SHAPES[i]), latencies, first, second, SHAPES[i]);
         }
       }
     }

@@ -291,6 +291,27 @@ public final class RunTest {
       }
       Check.sameInside(what, Inside.program(cpu), Inside.program(Situations.make(situation)));
     }
+    for (int start = 0; start < 48; start++) {
+      everyCellDoesTheSameAgain(start);
+    }
+  }
+
+  // The first reading executes every cell three times, and so would show in the second one.
+  private static void everyCellDoesTheSameAgain(int start) {
+    ScoreboardCpu cpu = new ScoreboardCpu(1 + start % 8, 3, 8, 2);
+    for (int cell = 0; cell < 32; cell++) {
+      int op = (start + cell * 5) % 12 + 1;
+      boolean anyB = op == ScoreboardCpu.ADDI || isMemory(op);
+      int b = anyB ? (cell + start * 7) % 36 - 2 : (cell + start * 3) % 8;
+      cpu.emit(op, (cell * 3 + start) % 8, isMemory(op) ? 0 : (cell + start / 2) % 8, b);
+    }
+    Check.due("length() of program " + start, cpu.length(), 32);
+    int[] first = Inside.program(cpu);
+    Check.sameInside("program " + start + " once more", Inside.program(cpu), first);
+  }
+
+  private static boolean isMemory(int op) {
+    return op == ScoreboardCpu.LOAD || op == ScoreboardCpu.STORE;
   }
 
   // "Registers, memory words, the pc and the faults change only as the executed instructions say.":
@@ -357,30 +378,76 @@ public final class RunTest {
   private static void noOtherInstructionHasAnEffect() {
     for (int from = 0; from < 32; from++) {
       for (int count = 1; count <= 32; count++) {
-        ScoreboardCpu cpu = new ScoreboardCpu(8, 1, 1, 1);
-        for (int cell = 0; cell < 32; cell++) {
-          cpu.emit(ScoreboardCpu.ADDI, cell % 8, cell % 8, 1 << cell);
-        }
-        cpu.jump(from);
-        int executed = cpu.run(count);
-        Check.due("run(" + count + ") from " + from, executed, Math.min(count, 32 - from));
-        int sum = 0;
-        for (int index = 0; index < 8; index++) {
-          sum += cpu.register(index);
-        }
-        int due = (int) (((1L << executed) - 1) << from);
-        Check.due("what run(" + count + ") from " + from + " did", sum, due);
+        onlyFromAndUpTo(from, count, 1);
+        onlyFromAndUpTo(from, count, 8);
       }
     }
-    ScoreboardCpu cpu = new ScoreboardCpu(8, 8, 8, 8);
-    cpu.emit(ScoreboardCpu.BEQ, 2, 0, 0);
-    cpu.emit(ScoreboardCpu.STORE, 7, 0, 5);
+    for (int op = ScoreboardCpu.ADD; op <= ScoreboardCpu.BLT; op++) {
+      for (int latency = 1; latency <= 8; latency++) {
+        notCountedYet(op, latency);
+        leftOutOrBehindHalt(op, latency);
+      }
+    }
+  }
+
+  private static void onlyFromAndUpTo(int from, int count, int latency) {
+    ScoreboardCpu cpu = new ScoreboardCpu(latency, 1, 1, 1);
+    for (int cell = 0; cell < 32; cell++) {
+      cpu.emit(ScoreboardCpu.ADDI, cell % 8, cell % 8, 1 << cell);
+    }
+    cpu.jump(from);
+    int executed = cpu.run(count);
+    Check.due("run(" + count + ") from " + from, executed, Math.min(count, 32 - from));
+    int sum = 0;
+    for (int index = 0; index < 8; index++) {
+      sum += cpu.register(index);
+    }
+    int due = (int) (((1L << executed) - 1) << from);
+    Check.due("what run(" + count + ") from " + from + " did", sum, due);
+  }
+
+  // R[0] and R[5] are 0, so that every instruction that can raise a fault would raise one.
+  private static void emitTelling(ScoreboardCpu cpu, int op) {
+    int b = isMemory(op) || op == ScoreboardCpu.ADDI ? 40 : op == ScoreboardCpu.BEQ ? 0 : 5;
+    int a = op == ScoreboardCpu.BEQ ? 0 : op == ScoreboardCpu.BLT ? 3 : 4;
+    cpu.emit(op, 6, isMemory(op) ? 0 : a, b);
+    cpu.emit(ScoreboardCpu.STORE, 4, 0, 31);
+  }
+
+  private static ScoreboardCpu telling(int latency) {
+    ScoreboardCpu cpu = new ScoreboardCpu(latency, latency, latency, latency);
+    cpu.setRegister(3, -9);
+    cpu.setRegister(4, 9);
+    cpu.setRegister(6, 123);
+    return cpu;
+  }
+
+  private static void notCountedYet(int op, int latency) {
+    ScoreboardCpu cpu = telling(latency);
+    cpu.emit(ScoreboardCpu.MUL, 1, 4, 4);
+    cpu.emit(ScoreboardCpu.ADDI, 2, 4, 1);
+    emitTelling(cpu, op);
+    int[] due = State.of(cpu);
+    due[1] = 81;
+    due[2] = 10;
+    due[State.PC] = 2;
+    String what = "run(2) before opcode " + op + ", latency " + latency;
+    Check.due(what, cpu.run(2), 2);
+    Check.same(what, due, State.of(cpu));
+  }
+
+  private static void leftOutOrBehindHalt(int op, int latency) {
+    ScoreboardCpu cpu = telling(latency);
+    cpu.emit(ScoreboardCpu.BEQ, 3, 0, 0);
+    emitTelling(cpu, op);
     cpu.emit(ScoreboardCpu.HALT, 0, 0, 0);
-    cpu.emit(ScoreboardCpu.DIV, 1, 7, 0);
-    cpu.setRegister(7, 9);
-    int[] before = State.of(cpu);
-    Check.due("run(64)", cpu.run(64), 1);
-    Check.same("left out, and behind a HALT", before, State.of(cpu), State.PC, State.STOPPED);
+    emitTelling(cpu, op);
+    int[] due = State.of(cpu);
+    due[State.PC] = 3;
+    due[State.STOPPED] = 1;
+    String what = "run(64) around opcode " + op + ", latency " + latency;
+    Check.due(what, cpu.run(64), 1);
+    Check.same(what, due, State.of(cpu));
   }
 
   // "Splitting a run into several calls gives the same result as one call executing the same
