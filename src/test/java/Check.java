@@ -42,6 +42,15 @@ final class Check {
     }
   }
 
+  static void sameProgram(String call, int[] got, int[] want) {
+    for (int i = 0; i < want.length; i++) {
+      if (got[i] != want[i]) {
+        due(call + ", then a later answer (" + Inside.programName(i) + ")", got[i], want[i]);
+        return;
+      }
+    }
+  }
+
   static boolean failed() {
     return wrong != 0;
   }

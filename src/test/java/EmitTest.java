@@ -26,6 +26,7 @@ public final class EmitTest {
     theRestStays();
     aStoppedMachineMayGoOn();
     lengthCountsTheCells();
+    everyCellTakesEveryOpcode();
     cellsKeepTheirInstructions();
     Check.end();
   }
@@ -229,14 +230,20 @@ public final class EmitTest {
   private static void theRestStays() {
     for (int situation = 0; situation < Situations.COUNT; situation++) {
       if (!Situations.isFull(situation)) {
-        ScoreboardCpu cpu = Situations.make(situation);
-        int[] before = State.of(cpu);
-        String call = "emit(1, 2, 3, 4)" + Situations.name(situation);
-        cpu.emit(ScoreboardCpu.ADD, 2, 3, 4);
-        Check.same(call, before, State.of(cpu), State.LENGTH, State.STOPPED);
-        earlierCellsStay(call, cpu, Situations.make(situation));
+        for (int op = 0; op <= 12; op++) {
+          theRestStays(situation, op);
+        }
       }
     }
+  }
+
+  private static void theRestStays(int situation, int op) {
+    ScoreboardCpu cpu = Situations.make(situation);
+    int[] before = State.of(cpu);
+    String call = "emit(" + op + ", 2, 3, 4)" + Situations.name(situation);
+    cpu.emit(op, 2, 3, 4);
+    Check.same(call, before, State.of(cpu), State.LENGTH, State.STOPPED);
+    earlierCellsStay(call, cpu, Situations.make(situation));
   }
 
   private static void earlierCellsStay(String call, ScoreboardCpu cpu, ScoreboardCpu twin) {
@@ -286,21 +293,60 @@ public final class EmitTest {
   // Promise 5: "`length()` answers the number of program cells filled, 0..32."
   private static void lengthCountsTheCells() {
     for (int length = 0; length <= 32; length++) {
-      ScoreboardCpu cpu = new ScoreboardCpu(1, 1, 1, 1);
-      for (int cell = 0; cell < length; cell++) {
-        cpu.emit(cell % 2 == 0 ? ScoreboardCpu.HALT : ScoreboardCpu.ADD, 1, 1, 1);
+      for (int op = 0; op <= 12; op++) {
+        lengthOf(length, op);
       }
-      Check.due("length() of " + length, cpu.length(), length);
-      cpu.run(64);
-      cpu.jump(31);
-      Check.due("length() of " + length + " after a run and a jump", cpu.length(), length);
-      cpu.emit(-1, 0, 0, 0);
-      Check.due("length() of " + length + " after a refusal", cpu.length(), length);
     }
     ScoreboardCpu cpu = withLength(33);
     Check.due("length() after 33 calls", cpu.length(), 32);
     cpu.reset();
     Check.due("length() after a reset", cpu.length(), 0);
+  }
+
+  private static void lengthOf(int length, int op) {
+    ScoreboardCpu cpu = new ScoreboardCpu(1, 1, 1, 1);
+    for (int cell = 0; cell < length; cell++) {
+      cpu.emit(op, 1, 1, 1);
+    }
+    String what = "length() of " + length + " with opcode " + op;
+    Check.due(what, cpu.length(), length);
+    cpu.run(64);
+    cpu.jump(31);
+    Check.due(what + " after a run and a jump", cpu.length(), length);
+    cpu.emit(-1, 0, 0, 0);
+    Check.due(what + " after a refusal", cpu.length(), length);
+  }
+
+  // Every opcode in every cell, with registers that are apart, equal, and apart the other way.
+  private static void everyCellTakesEveryOpcode() {
+    for (int op = 0; op <= 12; op++) {
+      for (int cell = 0; cell < 32; cell++) {
+        for (int apart = -1; apart <= 1; apart++) {
+          tryInCell(op, cell, apart);
+        }
+      }
+    }
+  }
+
+  private static void tryInCell(int op, int cell, int apart) {
+    ScoreboardCpu cpu = new ScoreboardCpu(2, 2, 2, 2);
+    PlainCpu plain = new PlainCpu(2, 2, 2, 2);
+    for (int i = 0; i < 32; i++) {
+      int each = i == cell ? op : i % 13;
+      cpu.emit(each, 5, 6, 7);
+      plain.emit(each, 5, 6, 7);
+      cpu.setMemory(i, i + 40);
+      plain.setMemory(i, i + 40);
+    }
+    for (int index = 5; index <= 7; index++) {
+      cpu.setRegister(index, 9 + apart * index);
+      plain.setRegister(index, 9 + apart * index);
+    }
+    cpu.jump(cell);
+    plain.jump(cell);
+    String what = "run(1) of opcode " + op + " in cell " + cell;
+    Check.due(what, cpu.run(1), plain.run(1));
+    Check.same(what, plain.state(), State.of(cpu));
   }
 
   private static void cellsKeepTheirInstructions() {

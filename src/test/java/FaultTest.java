@@ -242,13 +242,23 @@ public final class FaultTest {
     due("the first one after reset()", cpu, 1, 97, 97);
   }
 
+  // Promise 14: "`faultCount()` answers how many faults were raised since the object was made or
+  // last reset.": however many these are, and the first and the last one are kept all the while
   private static void theCountGoesOnOverManyCalls() {
-    ScoreboardCpu cpu = new ScoreboardCpu(8, 8, 8, 8);
-    cpu.emit(ScoreboardCpu.DIV, 1, 0, 0);
-    cpu.emit(ScoreboardCpu.BEQ, 0, 0, 0);
-    for (int call = 1; call <= 3000; call++) {
-      cpu.run(64);
-      Check.due("faultCount() after call " + call, cpu.faultCount(), 32 * call);
+    ScoreboardCpu cpu = new ScoreboardCpu(8, 8, 8, 1);
+    emitFaulty(cpu, ScoreboardCpu.DIV);
+    emitFaulty(cpu, ScoreboardCpu.LOAD);
+    emitFaulty(cpu, ScoreboardCpu.STORE);
+    cpu.emit(ScoreboardCpu.BEQ, 1, 0, 0);
+    cpu.run(1);
+    for (int round = 0; round < 3000; round++) {
+      int count = 44 * round + 1;
+      due("round " + round, cpu, count, 32, round == 0 ? 32 : 98);
+      cpu.run(63);
+      due("21 times LOAD and STORE, round " + round, cpu, count + 42, 32, 98);
+      cpu.run(1);
+      due("LOAD once more, round " + round, cpu, count + 43, 32, 65);
+      cpu.run(2);
     }
   }
 }

@@ -39,8 +39,12 @@ final class Inside {
     if (entry <= State.SIZE) {
       return "run(64), then " + State.name(entry - 1);
     }
-    int cell = (entry - 1 - State.SIZE) / PER_CELL % 32;
-    return entry <= State.SIZE + PROGRAM ? "cell " + cell + " alone" : "the room left";
+    int inProgram = entry - 1 - State.SIZE;
+    return inProgram < PROGRAM ? programName(inProgram) : "the room left";
+  }
+
+  static String programName(int entry) {
+    return "cell " + entry / PER_CELL % 32 + " alone";
   }
 
   private static int[] oneCell(ScoreboardCpu cpu, int cell, int filling) {

@@ -8,6 +8,7 @@ public final class ResetTest {
     theNextInstructionGoesIntoCell0();
     aRefusedEmitTakesNoCell();
     nothingOfTheOldProgramIsLeft();
+    newInstructionsTakeThePlaceOfOldOnes();
     faultsAreToldAfresh();
     aSecondResetChangesNothing();
     Check.end();
@@ -109,6 +110,29 @@ public final class ResetTest {
     }
     cpu.jump(0);
     Check.due("run(64) of the new program", cpu.run(64), 1);
+  }
+
+  // Whatever a cell held before, it holds what is put into it now, with every one of the fields.
+  private static void newInstructionsTakeThePlaceOfOldOnes() {
+    for (int before = 0; before <= 12; before++) {
+      for (int after = 0; after <= 12; after++) {
+        ScoreboardCpu cpu = new ScoreboardCpu(1, 2, 3, 4);
+        emitEight(cpu, before, 0);
+        cpu.reset();
+        emitEight(cpu, after, 7);
+        ScoreboardCpu fresh = new ScoreboardCpu(1, 2, 3, 4);
+        emitEight(fresh, after, 7);
+        String what = "opcode " + after + " where " + before + " was";
+        Check.sameProgram(what, Inside.program(cpu), Inside.program(fresh));
+      }
+    }
+  }
+
+  // The eight ways of setting the fields to 0 or 7; flip turns every field into the other one.
+  private static void emitEight(ScoreboardCpu cpu, int op, int flip) {
+    for (int code = 0; code < 8; code++) {
+      cpu.emit(op, (code & 1) * 7 ^ flip, (code >> 1 & 1) * 7 ^ flip, (code >> 2) * 7 ^ flip);
+    }
   }
 
   // Promises 14 to 16: "since the object was made or last reset"

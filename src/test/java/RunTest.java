@@ -289,25 +289,27 @@ public final class RunTest {
       for (int entry = State.LATENCY_0; entry <= State.LENGTH; entry++) {
         Check.due(what + ", then " + State.name(entry), after[entry], before[entry]);
       }
-      Check.sameInside(what, Inside.program(cpu), Inside.program(Situations.make(situation)));
+      Check.sameProgram(what, Inside.program(cpu), Inside.program(Situations.make(situation)));
     }
-    for (int start = 0; start < 48; start++) {
-      everyCellDoesTheSameAgain(start);
+    for (int program = 0; program < 16; program++) {
+      everyCellDoesTheSameAgain(program);
     }
   }
 
-  // The first reading executes every cell three times, and so would show in the second one.
-  private static void everyCellDoesTheSameAgain(int start) {
-    ScoreboardCpu cpu = new ScoreboardCpu(1 + start % 8, 3, 8, 2);
+  // Every opcode is there with every constant from -2 to 33. The first reading executes each cell
+  // three times: what this changes in the program would show in the second one.
+  private static void everyCellDoesTheSameAgain(int program) {
+    ScoreboardCpu cpu = new ScoreboardCpu(1 + program % 8, 3, 8, 2);
     for (int cell = 0; cell < 32; cell++) {
-      int op = (start + cell * 5) % 12 + 1;
+      int pair = program * 32 + cell;
+      int op = pair % 12 + 1;
       boolean anyB = op == ScoreboardCpu.ADDI || isMemory(op);
-      int b = anyB ? (cell + start * 7) % 36 - 2 : (cell + start * 3) % 8;
-      cpu.emit(op, (cell * 3 + start) % 8, isMemory(op) ? 0 : (cell + start / 2) % 8, b);
+      int b = anyB ? pair / 12 % 36 - 2 : pair / 12 % 8;
+      cpu.emit(op, pair / 5 % 8, isMemory(op) ? 0 : pair / 7 % 8, b);
     }
-    Check.due("length() of program " + start, cpu.length(), 32);
+    Check.due("length() of program " + program, cpu.length(), 32);
     int[] first = Inside.program(cpu);
-    Check.sameInside("program " + start + " once more", Inside.program(cpu), first);
+    Check.sameProgram("program " + program + " once more", Inside.program(cpu), first);
   }
 
   private static boolean isMemory(int op) {

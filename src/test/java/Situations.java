@@ -12,12 +12,13 @@ final class Situations {
   static final int AFTER_WORK_IN_ALL_UNITS = 9;
   static final int EMPTY_AT_31 = 10;
   static final int FULL_WITHOUT_FAULT = 11;
-  static final int COUNT = 12;
+  static final int MANY_FAULTS = 12;
+  static final int COUNT = 13;
 
   private static final String[] NAMES = {
     "fresh", "before an ADD", "at length", "on a HALT", "beyond length", "one cell free", "full",
     "full, at 32", "after a reset", "after work in all units", "empty, at 31",
-    "full, without a fault"
+    "full, without a fault", "many faults"
   };
 
   private Situations() {}
@@ -51,6 +52,7 @@ final class Situations {
       case AFTER_RESET -> cpu.reset();
       case FULL_WITHOUT_FAULT -> fillAnew(cpu);
       case AFTER_WORK_IN_ALL_UNITS -> workInAllUnits(cpu);
+      case MANY_FAULTS -> raiseManyFaults(cpu);
       default -> { }
     }
     return cpu;
@@ -84,6 +86,16 @@ final class Situations {
   private static void runFullProgram(ScoreboardCpu cpu) {
     fillUpTo(cpu, 32);
     cpu.run(64);
+  }
+
+  private static void raiseManyFaults(ScoreboardCpu cpu) {
+    cpu.setRegister(0, 0);
+    cpu.emit(ScoreboardCpu.REM, 4, 5, 0);
+    cpu.emit(ScoreboardCpu.STORE, 4, 0, 32);
+    cpu.emit(ScoreboardCpu.BEQ, 3, 0, 0);
+    for (int call = 0; call < 7; call++) {
+      cpu.run(64);
+    }
   }
 
   private static void workInAllUnits(ScoreboardCpu cpu) {
